@@ -440,14 +440,13 @@ public final class ProtocolMachine {
       return low > high || (lowest(earlier) <= low && high <= highest(earlier));
     }
 
-    boolean haveSameGuards(int one, int other) {
-      return variable[one] == variable[other]
-          && relation[one] == relation[other]
-          && number[one] == number[other];
-    }
-
-    boolean haveSameActions(int one, int other) {
-      if (actions[one] != actions[other]) {
+    /** Whether two transitions have the same guards and the same actions in the same order. */
+    boolean doTheSame(int one, int other) {
+      boolean sameGuards =
+          variable[one] == variable[other]
+              && relation[one] == relation[other]
+              && number[one] == number[other];
+      if (!sameGuards || actions[one] != actions[other]) {
         return false;
       }
       for (int k = 0; k < actions[one]; k++) {
@@ -615,7 +614,13 @@ public final class ProtocolMachine {
 
     void make() {
       putReachedIntoOneClass();
-      splitClasses();
+      int before = 0;
+      classes = 1;
+      // Classes are split only where they must be: so the greatest ones are left.
+      for (int round = 0; round < STATES && classes != before; round++) {
+        before = classes;
+        classes = splitOnce();
+      }
       findUsedCells();
       layRows();
       made = true;
@@ -624,25 +629,13 @@ public final class ProtocolMachine {
     void putReachedIntoOneClass() {
       Arrays.fill(stateClass, NONE);
       stateClass[0] = 0;
-      // Each round but the last reaches one more state at least.
+      // After a round that reaches no new state none does: as many rounds as states are enough.
       for (int round = 0; round < protocol.states; round++) {
         for (int t = 0; t < protocol.transitions; t++) {
           if (stateClass[protocol.from[t]] != NONE) {
             stateClass[protocol.next[t]] = 0;
           }
         }
-      }
-    }
-
-    /** Splits classes only where it must be done: so the greatest ones are left. */
-    void splitClasses() {
-      classes = 1;
-      for (int round = 0; round < STATES; round++) {
-        int finer = splitOnce();
-        if (finer == classes) {
-          return;
-        }
-        classes = finer;
       }
     }
 
@@ -683,19 +676,14 @@ public final class ProtocolMachine {
       int i = protocol.firstBehind(NONE, one, event);
       int j = protocol.firstBehind(NONE, other, event);
       for (int n = 0; n < TRANSITIONS && i != NONE && j != NONE; n++) {
-        if (!areSame(i, j)) {
+        boolean goToOneClass = stateClass[protocol.next[i]] == stateClass[protocol.next[j]];
+        if (!goToOneClass || !protocol.doTheSame(i, j)) {
           return false;
         }
         i = protocol.firstBehind(i, one, event);
         j = protocol.firstBehind(j, other, event);
       }
       return i == NONE && j == NONE;
-    }
-
-    boolean areSame(int i, int j) {
-      return stateClass[protocol.next[i]] == stateClass[protocol.next[j]]
-          && protocol.haveSameGuards(i, j)
-          && protocol.haveSameActions(i, j);
     }
 
     void findUsedCells() {
@@ -750,7 +738,7 @@ public final class ProtocolMachine {
     }
 
     boolean isUsed(int c, int event) {
-      return (usedBits[c] >> event & 1) != 0;
+      return ((usedBits[c] >> event) & 1) != 0;
     }
   }
 }

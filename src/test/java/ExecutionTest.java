@@ -9,6 +9,7 @@ public final class ExecutionTest {
   public static void main(String[] args) {
     restart();
     happenTakesTheFirstTrueOne();
+    happenLooksAtAllTransitions();
     happenThrows();
     guardsAtTheirEdges();
     actionsInOrder();
@@ -71,6 +72,16 @@ public final class ExecutionTest {
     Check.due("happen(7) in state 1", m.happen(7), -1);
     Check.due("ignored: state()", m.state(), 1);
     Check.due("happen lets no time go on", m.time(), 0L);
+  }
+
+  private static void happenLooksAtAllTransitions() {
+    ProtocolMachine m = new ProtocolMachine();
+    for (int t = 0; t < 39; t++) {
+      m.addTransition(0, 0, 0, 1, 1 + t, 0);
+    }
+    Check.due("none of 39", m.happen(0), -1);
+    m.addTransition(0, 0, 0, 1, 0, 0);
+    Check.due("the last of 40", m.happen(0), 39);
   }
 
   private static void happenThrows() {

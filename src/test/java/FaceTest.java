@@ -54,8 +54,9 @@ public final class FaceTest {
     }
     Check.due("the methods", seen, new TreeSet<>(FACE));
     for (Method m : c.getDeclaredMethods()) {
-      boolean sharesName = Modifier.isPrivate(m.getModifiers()) && FACE.stream().anyMatch(f -> f.contains(" " + m.getName() + "("));
-      Check.due("private " + m.getName() + " bears the name of a public one", sharesName, false);
+      boolean isOfFace = FACE.stream().anyMatch(f -> f.contains(" " + m.getName() + "("));
+      boolean isPrivate = Modifier.isPrivate(m.getModifiers());
+      Check.due(m.getName() + ": a private name of the face", isPrivate && isOfFace, false);
     }
     for (Field f : c.getDeclaredFields()) {
       Check.due(f.getName() + " is private", Modifier.isPrivate(f.getModifiers()), true);

@@ -16,6 +16,8 @@ public final class TableTest {
     laysRowsIntoOneAnother();
     laysFullRows();
     noUsedCells();
+    makesTheTableAnew();
+    whatWasDroppedTellsNothingApart();
     asksForATable();
     asksForAClass();
     digest();
@@ -101,7 +103,9 @@ public final class TableTest {
         Check.due("guards " + one[0] + " " + other[0], m.compile(), one == other ? 2 : 3);
       }
     }
-    int[][] actions = {{0, 0, 5}, {1, 0, 5}, {0, 1, 5}, {0, 0, 6}, {2, 0, 5}, {2, 0, 6}, {3, 0, 0}, {4, 0, 0}, {4, 1, 0}};
+    int[][] actions = {
+      {0, 0, 5}, {0, 1, 5}, {0, 0, 6}, {1, 0, 5}, {2, 0, 5}, {2, 0, 6}, {3, 0, 0}, {4, 0, 0}, {4, 1, 0}
+    };
     for (int[] one : actions) {
       for (int[] other : actions) {
         ProtocolMachine m = twins();
@@ -147,6 +151,15 @@ public final class TableTest {
     m.addTransition(1, 3, 0, 0, -999, 0);
     m.addTransition(2, 3, 0, 1, -1000, 0);
     apart("guards that are written in another way", m);
+    m = twins();
+    for (int n = 0; n < 18; n++) {
+      Check.link(m, 1, 3, 0);
+      Check.link(m, 2, 3, 0);
+    }
+    Check.link(m, 1, 3, 0);
+    Check.due("19 and 18 transitions", m.compile(), 3);
+    Check.link(m, 2, 3, 0);
+    Check.due("19 and 19 transitions", m.compile(), 2);
   }
 
   private static void whatHasNoMeaningTellsNothingApart() {
@@ -254,6 +267,37 @@ public final class TableTest {
     Check.due("tableSize() with event 7 alone", m.tableSize(), 8);
     Check.due("owner(0) with event 7 alone", m.owner(0), -1);
     Check.due("density() with event 7 alone", m.density(), 0.125);
+  }
+
+  /** Nothing of an earlier table may be left in a later one. */
+  private static void makesTheTableAnew() {
+    ProtocolMachine m = new ProtocolMachine();
+    Check.addStates(m, 2);
+    Check.link(m, 0, 0, 1);
+    Check.due("a chain of 2", m.compile(), 2);
+    Check.link(m, 1, 0, 2);
+    Check.due("a chain of 3", m.compile(), 3);
+    Check.due("tableSize() of a chain of 3", m.tableSize(), 2);
+    Check.due("offset(1) of a chain of 3", m.offset(1), 1);
+    m.drop();
+    m.compile();
+    Check.due("tableSize() of a chain of 2", m.tableSize(), 1);
+    Check.due("offset(1) of a chain of 2", m.offset(1), 0);
+    Check.due("used(1) of a chain of 2", m.used(1), 0);
+    Check.due("density() of a chain of 2", m.density(), 1.0);
+    Check.due("classOf(2) of a chain of 2", m.classOf(2), -1);
+  }
+
+  private static void whatWasDroppedTellsNothingApart() {
+    ProtocolMachine m = twins();
+    m.addTransition(1, 3, 0, 2, 7, 0);
+    m.addAction(2, EMIT, 1, 0);
+    m.drop();
+    Check.link(m, 1, 3, 0);
+    Check.link(m, 2, 3, 0);
+    Check.due("a guard and an action of a dropped one", m.compile(), 2);
+    m.addAction(2, EMIT, 2, 0);
+    apart("an action in place of the dropped one", m);
   }
 
   private static void asksForATable() {
