@@ -6,6 +6,16 @@ final class Check {
     Object answer();
   }
 
+  /** A call on an object that is handed to it. */
+  interface CallOn {
+    Object on(ProtocolMachine m);
+  }
+
+  /** Makes an object, and does the calls that come before the one that is looked at. */
+  interface Setup {
+    ProtocolMachine make();
+  }
+
   private static int wrong = 0;
 
   private Check() {}
@@ -26,12 +36,15 @@ final class Check {
     }
   }
 
-  /** The call throws this very class, no class below it, and changes nothing that can be seen. */
+  /**
+   * The call throws this very class, no class below it, and leaves the checksum as it was. (All
+   * else that a refused call must leave is looked at by refused, which needs objects of its own.)
+   */
   static void dueThrow(
       String what, ProtocolMachine m, Class<? extends RuntimeException> want, Call call) {
-    String before = look(m);
+    long before = m.digest();
     due(what, answer(call), "throws." + want.getSimpleName());
-    due(what + ", what is seen then,", look(m), before);
+    due(what + ", digest() then,", m.digest(), before);
   }
 
   static void noState(String what, ProtocolMachine m, Call call) {
@@ -46,11 +59,23 @@ final class Check {
     dueThrow(what, m, IllegalArgumentException.class, call);
   }
 
-  /** All that the face shows of an object. */
-  static String look(ProtocolMachine m) {
+  /**
+   * The call throws this very class on an object of the setup, and the object then answers, and
+   * goes on, as another one on which the call was never made.
+   */
+  static void refused(
+      String what, Class<? extends RuntimeException> want, Setup setup, CallOn call) {
+    ProtocolMachine m = setup.make();
+    due(what, answer(() -> call.on(m)), "throws." + want.getSimpleName());
+    due(what + ", what is seen then,", lookAndGoOn(m), lookAndGoOn(setup.make()));
+  }
+
+  /** All that the face shows of an object, in fewer than 300 calls: 512 are all that it answers. */
+  private static String look(ProtocolMachine m) {
     StringBuilder s = new StringBuilder();
     s.append("states ").append(m.stateCount()).append(" transitions ");
-    for (int t = 0; t < m.transitionCount(); t++) {
+    int transitions = m.transitionCount();
+    for (int t = 0; t < transitions; t++) {
       s.append(m.isHidden(t) ? "h" : "v").append(m.fired(t)).append(' ');
     }
     s.append("state ").append(m.state()).append(" time ").append(m.time()).append(" values ");
@@ -61,8 +86,9 @@ final class Check {
     for (int timer = 0; timer < 4; timer++) {
       s.append(m.left(timer)).append(' ');
     }
-    s.append("emitted ").append(m.emitted()).append(": ");
-    for (int i = 0; i < Math.min(60, m.emitted()); i++) {
+    int emitted = m.emitted();
+    s.append("emitted ").append(emitted).append(": ");
+    for (int i = 0; i < Math.min(60, emitted); i++) {
       s.append(m.output(i)).append(' ');
     }
     s.append("ignored ").append(m.ignored());
@@ -74,18 +100,35 @@ final class Check {
 
   private static void lookAtTable(ProtocolMachine m, StringBuilder s) {
     s.append(" classes ");
-    for (int state = 0; state < m.stateCount(); state++) {
+    int states = m.stateCount();
+    for (int state = 0; state < states; state++) {
       s.append(m.classOf(state)).append(' ');
     }
     s.append("rows ");
-    for (int c = 0; c < m.compile(); c++) {
+    int classes = m.compile();
+    for (int c = 0; c < classes; c++) {
       s.append(m.offset(c)).append('/').append(m.used(c)).append(' ');
     }
     s.append("line ");
-    for (int cell = 0; cell < m.tableSize(); cell++) {
+    int size = m.tableSize();
+    for (int cell = 0; cell < size; cell++) {
       s.append(m.owner(cell)).append(' ');
     }
     s.append("density ").append(m.density());
+  }
+
+  /** Also what only later calls show: guards, actions, and the events of the timers. */
+  private static String lookAndGoOn(ProtocolMachine m) {
+    StringBuilder s = new StringBuilder(look(m));
+    s.append(" going on ");
+    for (int event = 0; event < 8; event++) {
+      s.append(m.happen(event)).append(' ').append(m.advance(1 + event)).append(' ');
+    }
+    s.append(m.advance(1000)).append(" digest ").append(m.digest()).append(" events ");
+    for (int timer = 0; timer < 4; timer++) {
+      s.append(m.setTimerEvent(timer, 7)).append(' ');
+    }
+    return s.append(m.compile()).append(" digest ").append(m.digest()).toString();
   }
 
   static void addStates(ProtocolMachine m, int count) {
