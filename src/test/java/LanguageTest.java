@@ -17,7 +17,7 @@ import java.util.regex.Pattern;
 public final class LanguageTest {
   private static final Path SOURCE = Path.of("src/main/java/ProtocolMachine.java");
 
-  /** The class uses less of the library than rule 4 lists; what is new here, hold against rule 4. */
+  /** The class uses less than rule 4 lists; what becomes new here, hold against rule 4. */
   private static final Set<String> LIBRARY =
       Set.of("Arrays.fill", "Math.max", "Math.min", "Integer.bitCount", "System.arraycopy");
 
@@ -73,7 +73,8 @@ public final class LanguageTest {
     }
     Check.due("rule 2: a lambda or a method reference", has(plain, "->|::"), false);
     Check.due("rule 5: a static block", has(plain, "\\bstatic\\s*\\{"), false);
-    Check.due("rule 9: a loop without a bound", has(plain, "while \\(true\\)|for \\(;;|; ;"), false);
+    boolean hasNoBound = has(plain, "while \\(true\\)|for \\(;;|; ;");
+    Check.due("rule 9: a loop without a bound", hasNoBound, false);
     Check.due("rule 10: texts joined by +", has(plain, "\"\"\\s*\\+|\\+\\s*\"\""), false);
   }
 

@@ -37,6 +37,7 @@ public final class TableBoundaryTest {
     rowsWithoutUsedCells();
     theSmallestOffset();
     aRowMayHangOverTheEnd();
+    aLongLine();
     sizeByTheGreatestCell();
     keptUntilTheNextChange();
     droppedIfNothingChanges();
@@ -429,6 +430,28 @@ public final class TableBoundaryTest {
     offsets("hanging over", m, 0, 1, 2);
     owners("hanging over", m, -1, 1, -1, -1, -1, 0, 0, 0, 1, 2);
     Check.due("density()", m.density(), 0.6);
+  }
+
+  /** "one long line of cells": rows of all 40 transitions that do not fit into one another. */
+  private static void aLongLine() {
+    int[][] events = {{0, 1, 6, 7}, {0, 2, 4, 6}};
+    ProtocolMachine m = new ProtocolMachine();
+    Check.addStates(m, 9);
+    for (int s = 0; s < 10; s++) {
+      for (int e : events[s % 2]) {
+        m.addAction(Check.link(m, s, e, (s + 1) % 10), EMIT, s, 0);
+      }
+    }
+    offsets("10 rows that do not fit", m, 0, 8, 15, 23, 30, 38, 45, 53, 60, 68);
+    Check.due("tableSize()", m.tableSize(), 75);
+    Check.due("density()", m.density(), 40.0 / 75.0);
+    for (int s = 0; s < 10; s++) {
+      for (int e : events[s % 2]) {
+        Check.due("owner of state " + s + ", event " + e, m.owner(m.offset(s) + e), s);
+      }
+    }
+    Check.due("owner(73), not taken", m.owner(73), -1);
+    Check.noIndex("owner(75)", m, () -> m.owner(75));
   }
 
   /** "the number of the greatest taken cell, plus 1; 0 if none is taken". */
